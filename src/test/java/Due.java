@@ -2,15 +2,21 @@
 final class Due {
     private static int wrong = 0;
     private static int looked = 0;
+    private static String about = "";
 
     private Due() {
+    }
+
+    /** What the answers that follow are asked for: printed ahead of each that is wrong. */
+    static void about(String words) {
+        about = words.isEmpty() ? "" : words + ": ";
     }
 
     static void due(String call, long got, long want) {
         looked++;
         if (got != want) {
             wrong++;
-            System.out.println(call + " answered " + got + ", due is " + want);
+            System.out.println(about + call + " answered " + got + ", due is " + want);
         }
     }
 
@@ -22,6 +28,10 @@ final class Due {
 
     static int wrongSoFar() {
         return wrong;
+    }
+
+    static int lookedSoFar() {
+        return looked;
     }
 
     static void end(String test) {
