@@ -87,6 +87,10 @@ final class SearchPromises {
             for (int ports : Wrong.outside(1, all)) {
                 Twin.refused("shrunk(" + ports + ", 0, last, 0)", made, x -> x.shrunk(ports, 0, last, 0), -2);
             }
+            for (int beyond = last + 1; beyond < 32; beyond++) {
+                int ports = all | 1 << beyond;
+                Twin.refused("shrunk(" + ports + ", 0, last, 0)", made, x -> x.shrunk(ports, 0, last, 0), -2);
+            }
         }
     }
 

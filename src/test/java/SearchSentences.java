@@ -260,8 +260,17 @@ final class SearchSentences {
         Due.due("the least of 36, 27, 18, 9, 12", x.pads(1), 8);
         Due.due("both ends", x.pads(2), 17);
         x.pull(2, 1);
-        // a third pad: only where it pulls
+        // a third pad: where it pulls
         Due.due("all that pull", x.pads(3), 21);
+        ChipVolts parts = Nets.chain(5, 3);
+        parts.pull(0, 4);
+        parts.pull(2, 3);
+        // 3/5 + 3/3; 4/5 and 3/3; 4/5 + 4/3
+        Due.due("the least of 8/5, 1, 32/15", parts.pads(1), 2);
+        parts.pull(0, 6);
+        parts.pull(2, 2);
+        // 2/5 + 2/3; 6/5 and 2/3; 6/5 + 6/3
+        Due.due("the least of 16/15, 6/5, 16/5", parts.pads(1), 1);
     }
 
     private static void bestOfLike() {
@@ -339,6 +348,15 @@ final class SearchSentences {
         dueWidened(two, 12, 2, 2, 1, 1);
         dueWidened(two, 8, 3, -1, -1, -1);
         dueWidened(two, 10, 3, 3, 2, 1);
+        // the pad at the other end
+        two.pad(0, false);
+        two.pad(2, true);
+        two.pull(2, 0);
+        two.pull(0, 12);
+        dueWidened(two, 12, 1, -1, -1, -1);
+        dueWidened(two, 12, 2, 2, 1, 1);
+        dueWidened(two, 10, 3, 3, 2, 1);
+        dueWidened(two, 9, 3, -1, -1, -1);
     }
 
     private static void noneAbove6() {
@@ -514,6 +532,14 @@ final class SearchSentences {
         y.block(1, 9);
         // 27, 9 + 15, 14 + 3
         dueWoken(y, 27, 1, 2, 0, 1);
+        // the pad at the other end
+        ChipVolts z = new ChipVolts();
+        z.wire(0, 1, 1, 1);
+        z.pad(1, true);
+        z.block(0, 5);
+        z.block(0, 6);
+        // 18, then 6 + 15
+        dueWoken(z, 21, 1, 1, 0);
     }
 
     private static void allBlocks() {
