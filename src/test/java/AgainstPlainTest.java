@@ -1,10 +1,12 @@
 /**
  * Runs of calls on ChipVolts and on PlainVolts side by side, picked by a
- * counter that is the same each time; and nets as heavy as they can be.
+ * counter that is the same each time, to the 512th call and beyond; and nets as
+ * heavy as they can be.
  */
 public final class AgainstPlainTest {
     private static final int LOW = Integer.MIN_VALUE, HIGH = Integer.MAX_VALUE;
-    private static final int MIXED_RUNS = 250, HEAVY_RUNS = 25;
+    private static final int MIXED_RUNS = 250, HEAVY_RUNS = 25, LONG_RUNS = 6;
+    private static final int CALLS_OF_AN_OBJECT = 512;
     private static final int[] WRONG = {LOW, LOW + 1, -7, -1, 7, 8, 12, 31, 32, 33, 64, 101, 1001, HIGH};
 
     private long seed;
@@ -25,6 +27,10 @@ public final class AgainstPlainTest {
         for (int run = 0; run < HEAVY_RUNS && Due.wrongSoFar() < 50; run++) {
             t.start(100000 + run);
             t.heavyRun();
+        }
+        for (int run = 0; run < LONG_RUNS && Due.wrongSoFar() < 50; run++) {
+            t.start(200000 + run);
+            t.mixedRun(CALLS_OF_AN_OBJECT);
         }
         Due.end("AgainstPlainTest");
     }
